@@ -188,18 +188,20 @@ public final class HeapDesk {
         if (sum.counters() > MOST_COUNTERS_TO_LOSE) {
             throw new UnsupportedOperationException("too many counters");
         }
+        fortunes.learn(rules);
         fortunes.clearSum();
         for (int place = 0; place < PLACES; place++) {
             fortunes.addHeaps(sum.heaps[place], 1);
         }
-        return fortunes.moverWinsSum(rules);
+        return fortunes.moverWinsSum();
     }
 
     public int quotient(int size) throws IllegalArgumentException {
         if (size < 1 || size > Quotient.GREATEST_SIZE) {
             throw new IllegalArgumentException("no such size");
         }
-        classes.make(size, fortunes, rules);
+        fortunes.learn(rules);
+        classes.make(size, fortunes);
         return classes.found;
     }
 
@@ -875,12 +877,13 @@ public final class HeapDesk {
         private static final int MOST_OPTIONS = 900;
         /** A heap of h counters can't be played on for more than 2 * h - 1 moves. */
         private static final int MOST_MOVES = 2 * MOST_COUNTERS;
-        private static final byte WINS = 1;
-        private static final byte LOSES = 2;
+        private static final int UNKNOWN = 0;
+        private static final int WINS = 1;
+        private static final int LOSES = 2;
 
         /** Of sums with at most so many counters (row): how many have no heap above a size (column). */
         private final int[] sumsUpTo = new int[SIZES * SIZES];
-        private final byte[] fortune = new byte[SUMS];
+        private final int[] fortune = new int[SUMS];
         private final int[] firstOption = new int[MOST_COUNTERS_TO_LOSE + 2];
         private final int[] optionRow = new int[MOST_OPTIONS];
         private final int[] heapsOf = new int[Choice.PACKED_MASK + 1];
@@ -911,22 +914,23 @@ public final class HeapDesk {
             }
         }
 
-        boolean moverWinsSum(Rules rules) {
-            if (!ready) {
-                prepare(rules);
+        /** To be called before sums are asked for, whenever a rule may have been told. */
+        void learn(Rules rules) {
+            if (ready) {
+                return;
             }
-            return moverWins(0);
-        }
-
-        private void prepare(Rules rules) {
             int next = 0;
             for (int size = 1; size <= MOST_COUNTERS_TO_LOSE; size++) {
                 firstOption[size] = next;
                 next = rules.writeOptions(size, optionRow, next, choice);
             }
             firstOption[MOST_COUNTERS_TO_LOSE + 1] = next;
-            Arrays.fill(fortune, (byte) 0);
+            Arrays.fill(fortune, UNKNOWN);
             ready = true;
+        }
+
+        boolean moverWinsSum() {
+            return moverWins(0);
         }
 
         private boolean moverWins(int depth) {
@@ -934,7 +938,7 @@ public final class HeapDesk {
             if (sum >= SUMS || depth > MOST_MOVES) {
                 return false;
             }
-            if (fortune[sum] == 0) {
+            if (fortune[sum] == UNKNOWN) {
                 fortune[sum] = !hasMove() || hasGoodMove(depth) ? WINS : LOSES;
             }
             return fortune[sum] == WINS;
@@ -1021,12 +1025,12 @@ public final class HeapDesk {
             }
         }
 
-        void make(int size, LastLoses lastLoses, Rules rules) {
+        void make(int size, LastLoses lastLoses) {
             found = 0;
             for (int sum = 0; sum < SUMS; sum++) {
                 classOfSum[sum] = NONE;
                 if (isOfSize(sum, size)) {
-                    enter(sum, fortunesOf(sum, size, lastLoses, rules));
+                    enter(sum, fortunesOf(sum, size, lastLoses));
                 }
             }
         }
@@ -1072,7 +1076,7 @@ public final class HeapDesk {
             return (size >= 2 || twos[sum] == 0) && (size >= 3 || threes[sum] == 0);
         }
 
-        private int fortunesOf(int sum, int size, LastLoses lastLoses, Rules rules) {
+        private int fortunesOf(int sum, int size, LastLoses lastLoses) {
             int bits = 0;
             for (int test = 0; test < TESTS; test++) {
                 if (isOfSize(test, size)) {
@@ -1080,7 +1084,7 @@ public final class HeapDesk {
                     lastLoses.addHeaps(1, ones[sum] + ones[test]);
                     lastLoses.addHeaps(2, twos[sum] + twos[test]);
                     lastLoses.addHeaps(3, threes[sum] + threes[test]);
-                    bits |= lastLoses.moverWinsSum(rules) ? 1 << test : 0;
+                    bits |= lastLoses.moverWinsSum() ? 1 << test : 0;
                 }
             }
             return bits;

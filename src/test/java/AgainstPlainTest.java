@@ -1,6 +1,6 @@
 /** Long runs of calls, the same on the desk and on the plain form of the document: all answers must agree. */
 public final class AgainstPlainTest {
-    private static final int RUNS = 600;
+    private static final int RUNS = 300;
     private static final int CALLS = 512;
 
     private final Check check = new Check("against the plain form");
@@ -17,6 +17,7 @@ public final class AgainstPlainTest {
             test.runOf(run);
         }
         test.largeTables();
+        test.allQuotients();
         test.check.end();
     }
 
@@ -124,7 +125,7 @@ public final class AgainstPlainTest {
     }
 
     private void askTable() {
-        int n = below(8) == 0 ? from(-1, 210) : from(0, greatestHeap + 5);
+        int n = below(100) == 0 ? from(198, 202) : below(8) == 0 ? from(-1, 90) : from(0, greatestHeap + 5);
         both("analyse(" + n + ")", () -> desk.analyse(n), () -> plain.analyse(n));
         int heap = from(-1, n + 1);
         both("nimber(" + heap + ")", () -> desk.nimber(heap), () -> plain.nimber(heap));
@@ -189,7 +190,7 @@ public final class AgainstPlainTest {
             for (int place = 1; place <= code.length; place++) {
                 tellDigit(place, code[place - 1]);
             }
-            compareTable(700);
+            compareTable(400);
         }
         desk = new HeapDesk();
         plain = new Plain();
@@ -200,14 +201,43 @@ public final class AgainstPlainTest {
             compareTable(2000);
         }
         tellKind(3);
-        compareTable(1200);
+        compareTable(500);
         tellKind(2);
-        compareTable(1200);
+        compareTable(500);
         tellKind(0);
         for (int place = 1; place <= 12; place++) {
             tellDigit(place, place % 2 == 0 ? 15 : 10);
         }
         compareTable(120);
+    }
+
+    /** A quotient has to do with heaps of 1 to 3 alone: there are 512 tables for these, and no other rules. */
+    private void allQuotients() {
+        int[][] entries = {{1, 0, 0}, {2, 0, 0}, {2, 0, 1}, {2, 1, 1}, {3, 0, 0}, {3, 0, 1}, {3, 0, 2}, {3, 1, 1},
+            {3, 1, 2}};
+        for (int rules = 0; rules < 512; rules++) {
+            run = RUNS + rules;
+            calls = 0;
+            desk = new HeapDesk();
+            plain = new Plain();
+            tellKind(4);
+            for (int i = 0; i < entries.length; i++) {
+                tellEntry(entries[i][0], entries[i][1], entries[i][2], (rules >> i & 1) == 1);
+            }
+            for (int size = 1; size <= 3; size++) {
+                compareQuotient(size);
+            }
+        }
+    }
+
+    private void compareQuotient(int size) {
+        both("quotient(" + size + ")", () -> desk.quotient(size), () -> plain.quotient(size));
+        int classes = plain.count(4);
+        for (int i = 0; i < 5 * classes; i++) {
+            int c = i / 5;
+            int what = i % 5;
+            both("ofClass(" + c + ", " + what + ")", () -> desk.ofClass(c, what), () -> plain.ofClass(c, what));
+        }
     }
 
     private void compareTable(int n) {
