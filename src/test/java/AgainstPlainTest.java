@@ -1,10 +1,11 @@
 /** Long runs of calls, the same on the desk and on the plain form of the document: all answers must agree. */
 public final class AgainstPlainTest {
     private static final int RUNS = 300;
-    private static final int CALLS = 512;
+    /** So many nimbers of a table are asked for, beside what it takes to tell the rules and to ask for more. */
+    private static final int NIMBERS_OF_ONE_DESK = 400;
 
     private final Check check = new Check("against the plain form");
-    private HeapDesk desk;
+    private CountedDesk desk;
     private Plain plain;
     private int run;
     private int calls;
@@ -32,6 +33,9 @@ public final class AgainstPlainTest {
     }
 
     private void both(String call, Check.Call ofDesk, Check.Call ofPlain) {
+        if (desk.callsLeft() == 0) {
+            return;
+        }
         calls++;
         check.due("run " + run + ", call " + calls + ": " + call, Check.outcome(ofPlain), ofDesk);
     }
@@ -39,11 +43,11 @@ public final class AgainstPlainTest {
     private void runOf(int number) {
         run = number;
         calls = 0;
-        desk = new HeapDesk();
+        desk = new CountedDesk();
         plain = new Plain();
         greatestHeap = number % 3 == 0 ? 3 : number % 3 == 1 ? 8 : 70;
         tellKind(number % 5);
-        while (calls < CALLS && !check.hasWrong()) {
+        while (desk.callsLeft() > 0 && !check.hasWrong()) {
             if (below(12) == 0) {
                 tell();
             } else {
@@ -185,30 +189,29 @@ public final class AgainstPlainTest {
     private void largeTables() {
         int[][] codes = {{7, 7}, {0, 7}, {3, 3, 3}, {0, 5, 2, 4}, {7, 7, 7, 7}, {1, 3, 7}};
         for (int[] code : codes) {
-            desk = new HeapDesk();
-            plain = new Plain();
-            for (int place = 1; place <= code.length; place++) {
-                tellDigit(place, code[place - 1]);
-            }
-            compareTable(400);
+            compareTable(400, () -> tellCode(code));
         }
-        desk = new HeapDesk();
-        plain = new Plain();
+        int[] eights = {10, 15, 10, 15, 10, 15, 10, 15, 10, 15, 10, 15};
+        compareTable(120, () -> tellCode(eights));
+        int[][] sets = {{2}, {2, 5}, {2, 5, 11}, {2, 5, 11, 17}, {2, 5, 11, 17, 64}};
+        for (int[] numbers : sets) {
+            compareTable(2000, () -> tellNumbers(numbers));
+        }
+        compareTable(500, () -> tellKind(2));
+        compareTable(500, () -> tellKind(3));
+    }
+
+    private void tellCode(int[] digits) {
+        for (int place = 1; place <= digits.length; place++) {
+            tellDigit(place, digits[place - 1]);
+        }
+    }
+
+    private void tellNumbers(int[] numbers) {
         tellKind(1);
-        int[] numbers = {2, 5, 11, 17, 64};
         for (int number : numbers) {
             tellNumber(number, true);
-            compareTable(2000);
         }
-        tellKind(3);
-        compareTable(500);
-        tellKind(2);
-        compareTable(500);
-        tellKind(0);
-        for (int place = 1; place <= 12; place++) {
-            tellDigit(place, place % 2 == 0 ? 15 : 10);
-        }
-        compareTable(120);
     }
 
     /** A quotient has to do with heaps of 1 to 3 alone: there are 512 tables for these, and no other rules. */
@@ -218,7 +221,7 @@ public final class AgainstPlainTest {
         for (int rules = 0; rules < 512; rules++) {
             run = RUNS + rules;
             calls = 0;
-            desk = new HeapDesk();
+            desk = new CountedDesk();
             plain = new Plain();
             tellKind(4);
             for (int i = 0; i < entries.length; i++) {
@@ -240,11 +243,16 @@ public final class AgainstPlainTest {
         }
     }
 
-    private void compareTable(int n) {
-        both("analyse(" + n + ")", () -> desk.analyse(n), () -> plain.analyse(n));
-        for (int size = 0; size <= n; size++) {
-            int heap = size;
-            both("nimber(" + heap + ")", () -> desk.nimber(heap), () -> plain.nimber(heap));
+    private void compareTable(int n, Runnable tellRules) {
+        for (int first = 0; first <= n; first += NIMBERS_OF_ONE_DESK) {
+            desk = new CountedDesk();
+            plain = new Plain();
+            tellRules.run();
+            both("analyse(" + n + ")", () -> desk.analyse(n), () -> plain.analyse(n));
+            for (int size = first; size <= n && size < first + NIMBERS_OF_ONE_DESK; size++) {
+                int heap = size;
+                both("nimber(" + heap + ")", () -> desk.nimber(heap), () -> plain.nimber(heap));
+            }
         }
         both("period(0)", () -> desk.period(0), () -> plain.period(0));
         both("period(1)", () -> desk.period(1), () -> plain.period(1));

@@ -1,18 +1,8 @@
 /** The promises one by one: ordinary answers, the edges that the document names, and wrong arguments. */
-public final class PromisesTest {
-    private static final Class<?> ARGUMENT = IllegalArgumentException.class;
-    private static final Class<?> INDEX = IndexOutOfBoundsException.class;
-    private static final Class<?> STATE = IllegalStateException.class;
-    private static final Class<?> UNSUPPORTED = UnsupportedOperationException.class;
-
-    private static final int CODE = 0;
-    private static final int SUBTRACTION = 1;
-    private static final int SPLIT = 2;
-    private static final int UNLIKE = 3;
-    private static final int TABLE = 4;
-
-    private final Check check = new Check("promises");
-    private HeapDesk desk;
+public final class PromisesTest extends Cases {
+    private PromisesTest() {
+        super("promises");
+    }
 
     public static void main(String[] args) {
         PromisesTest test = new PromisesTest();
@@ -43,82 +33,24 @@ public final class PromisesTest {
         test.classOf();
         test.ofClass();
         test.count();
-        test.check.end();
-    }
-
-    private void due(String what, Object want, Check.Call call) {
-        check.due(what, want, call);
-    }
-
-    private void code(int... digits) {
-        desk = new HeapDesk();
-        for (int place = 1; place <= digits.length; place++) {
-            desk.digit(place, digits[place - 1]);
-        }
-    }
-
-    private void subtraction(int... numbers) {
-        desk = new HeapDesk();
-        desk.kind(SUBTRACTION);
-        for (int number : numbers) {
-            desk.number(number, true);
-        }
-    }
-
-    private void rule(int kind) {
-        desk = new HeapDesk();
-        desk.kind(kind);
-    }
-
-    private void sum(int... heaps) {
-        for (int place = 0; place < 16; place++) {
-            desk.heap(place, place < heaps.length ? heaps[place] : 0);
-        }
-    }
-
-    private String heapsOfSum() {
-        StringBuilder all = new StringBuilder();
-        for (int place = 0; place < 16; place++) {
-            all.append(desk.at(place)).append(' ');
-        }
-        return all.toString().replaceAll("( 0)* $", "");
-    }
-
-    private String nimbersUpTo(int n) {
-        desk.analyse(n);
-        StringBuilder all = new StringBuilder();
-        for (int heap = 0; heap <= n; heap++) {
-            all.append(desk.nimber(heap)).append(' ');
-        }
-        return all.toString().trim();
-    }
-
-    private String optionsOf(int heap) {
-        StringBuilder all = new StringBuilder();
-        int options = desk.options(heap);
-        for (int k = 0; k < options; k++) {
-            for (int which = 0; which < 3; which++) {
-                all.append(desk.option(heap, k, which)).append(which < 2 ? "+" : " ");
-            }
-        }
-        return all.toString().trim();
+        test.end();
     }
 
     private void newObject() {
         due("NONE", -1, () -> HeapDesk.NONE);
         for (int i = 1; i <= 12; i++) {
             int place = i;
-            desk = new HeapDesk();
+            desk = new CountedDesk();
             due("a new object's digit at " + place, 0, () -> desk.digit(place, 1));
         }
-        desk = new HeapDesk();
+        desk = new CountedDesk();
         due("a new object's kind", CODE, () -> desk.kind(TABLE));
         for (int i = 1; i <= 64; i++) {
             int number = i;
             due("a new object's number " + number, false, () -> desk.number(number, false));
             due("a new object's options of " + number, 0, () -> desk.options(number));
         }
-        desk = new HeapDesk();
+        desk = new CountedDesk();
         int[] counts = {0, 0, 0, 0, -1};
         for (int i = 0; i < counts.length; i++) {
             int what = i;
@@ -132,26 +64,6 @@ public final class PromisesTest {
         due("a new object's moves()", 0, () -> desk.moves());
         due("a new object's lastLoses()", true, () -> desk.lastLoses());
         due("a new object's undo()", STATE, () -> desk.undo());
-    }
-
-    private void keepsWhenRefused(String what, Class<?> want, Check.Call call) {
-        desk.analyse(5);
-        desk.quotient(1);
-        due(what, want, call);
-        due("the table behind " + what, 5, () -> desk.count(0));
-        due("the quotient behind " + what, true, () -> desk.count(4) > 0);
-    }
-
-    private void isGoneBehind(String what, Object want, Check.Call call) {
-        desk.analyse(5);
-        desk.quotient(1);
-        due(what, want, call);
-        due("the table behind " + what, 0, () -> desk.count(0));
-        due("the greatest nimber behind " + what, 0, () -> desk.count(1));
-        due("nimber(0) behind " + what, 0, () -> desk.nimber(0));
-        due("nimber(1) behind " + what, INDEX, () -> desk.nimber(1));
-        due("the quotient behind " + what, -1, () -> desk.count(4));
-        due("classOf() behind " + what, STATE, () -> desk.classOf());
     }
 
     private void kind() {
@@ -177,7 +89,7 @@ public final class PromisesTest {
     }
 
     private void digit() {
-        desk = new HeapDesk();
+        desk = new CountedDesk();
         isGoneBehind("digit(1, 3)", 0, () -> desk.digit(1, 3));
         isGoneBehind("digit(1, 15)", 3, () -> desk.digit(1, 15));
         isGoneBehind("digit(1, 0)", 15, () -> desk.digit(1, 0));
@@ -318,13 +230,8 @@ public final class PromisesTest {
         due("frequency(0) of the smaller table", 1, () -> desk.frequency(0));
     }
 
-    private void periodIs(String what, int period, int preperiod) {
-        due("period(0) " + what, period, () -> desk.period(0));
-        due("period(1) " + what, preperiod, () -> desk.period(1));
-    }
-
     private void periodOfCode() {
-        desk = new HeapDesk();
+        desk = new CountedDesk();
         periodIs("of heap 0 alone", -1, -1);
         desk.analyse(1);
         periodIs("of no moves", 1, 0);
@@ -494,14 +401,12 @@ public final class PromisesTest {
     private void move() {
         code(15, 7);
         sum(0, 3, 0, 4);
-        StringBuilder all = new StringBuilder();
-        int moves = desk.moves();
-        for (int move = 0; move < moves; move++) {
-            for (int what = 0; what <= 3; what++) {
-                all.append(desk.move(move, what)).append(what == 0 ? ":" : what < 3 ? "+" : " ");
-            }
+        String[] all = {"1:2+0+0", "1:1+1+0", "1:1+0+0", "3:3+0+0", "3:1+2+0", "3:1+1+1", "3:2+0+0", "3:1+1+0"};
+        due("moves()", all.length, () -> desk.moves());
+        for (int i = 0; i < all.length; i++) {
+            int move = i;
+            due("move " + move, all[move], () -> moveAt(move));
         }
-        check.due("all moves", "1:2+0+0 1:1+1+0 1:1+0+0 3:3+0+0 3:1+2+0 3:1+1+1 3:2+0+0 3:1+1+0 ", all.toString());
         due("move(8, 0)", INDEX, () -> desk.move(8, 0));
         due("move(-1, 0)", INDEX, () -> desk.move(-1, 0));
         due("move(0, 4)", INDEX, () -> desk.move(0, 4));
@@ -604,11 +509,11 @@ public final class PromisesTest {
     private void undoManyMoves() {
         code(3);
         desk.heap(0, 2000);
-        for (int i = 1; i <= 255; i++) {
+        for (int i = 1; i <= 240; i++) {
             int move = i;
             due("play " + move, move, () -> desk.play(0));
         }
-        for (int i = 254; i >= 0; i--) {
+        for (int i = 239; i >= 0; i--) {
             int left = i;
             due("undo to " + left, left, () -> desk.undo());
         }
@@ -631,11 +536,6 @@ public final class PromisesTest {
         sum(100);
         desk.analyse(200);
         due("value() of a heap without options", true, () -> desk.value() >= 0);
-    }
-
-    private void lastLosesIs(boolean want, int... heaps) {
-        sum(heaps);
-        due("lastLoses() of " + heapsOfSum(), want, () -> desk.lastLoses());
     }
 
     private void lastLoses() {
@@ -697,7 +597,7 @@ public final class PromisesTest {
         due("quotient(4)", ARGUMENT, () -> desk.quotient(4));
         due("the quotient behind refused calls", 2, () -> desk.count(4));
         due("quotient(1)", 2, () -> desk.quotient(1));
-        desk = new HeapDesk();
+        desk = new CountedDesk();
         due("quotient(3) without moves", 1, () -> desk.quotient(3));
         due("its sums", 35, () -> desk.ofClass(0, 1));
         due("quotient(2) without moves", 1, () -> desk.quotient(2));
@@ -711,11 +611,6 @@ public final class PromisesTest {
         desk.number(3, true);
         due("quotient(3) of Nim", 6, () -> desk.quotient(3));
         due("3 as 1 + 2", true, () -> desk.ofClass(0, 4) == desk.ofClass(desk.ofClass(0, 2), 3));
-    }
-
-    private void classOfIs(Object want, int... heaps) {
-        sum(heaps);
-        due("classOf() of " + heapsOfSum(), want, () -> desk.classOf());
     }
 
     private void classOf() {
