@@ -26,6 +26,7 @@ public final class LastLosesEdgesTest extends Cases {
         holds("lastLoses() with every kind", this::everyKind);
         holds("(lastLoses() asks for no table and changes nothing)", this::changesNothing);
         holds("(another rule, another winner)", this::otherRule);
+        holds("(another sum, another winner)", this::otherSums);
     }
 
     private void noMove() {
@@ -66,6 +67,10 @@ public final class LastLosesEdgesTest extends Cases {
         lastLosesIs(true, 3);
         lastLosesIs(false, 4);
         lastLosesIs(true, 4, 4);
+        // The same with a heap of 1 to be taken: 4 moves of 4; of 5 to 1 + 1 + 2 three.
+        code(9);
+        lastLosesIs(true, 4);
+        lastLosesIs(false, 5);
         // Nim of small heaps: who moves loses at 1 and at 2 + 2.
         subtraction(1, 2, 3);
         lastLosesIs(false, 1);
@@ -122,6 +127,20 @@ public final class LastLosesEdgesTest extends Cases {
         due("lastLoses() of 3, behind entry(1, 0, 0, true)", false, () -> desk.lastLoses());
         desk.entry(3, 1, 0, true);
         due("lastLoses() of 3, behind entry(3, 1, 0, true)", true, () -> desk.lastLoses());
+    }
+
+    private void otherSums() {
+        rule(SPLIT);
+        for (int round = 0; round < 2; round++) {
+            lastLosesIs(false, 16);
+            lastLosesIs(true);
+            lastLosesIs(true, 1);
+            lastLosesIs(true, 15, 1);
+            lastLosesIs(false, 14, 1);
+            lastLosesIs(true, 8, 8);
+            lastLosesIs(false, 4, 4, 4);
+            due("quotient(3)", 2, () -> desk.quotient(3));
+        }
     }
 
     private void tooManyCounters() {

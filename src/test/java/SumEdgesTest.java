@@ -411,6 +411,13 @@ public final class SumEdgesTest extends Cases {
         winsAre("0000");
         sum(0, 1);
         winsAre("1");
+        // Nimbers are 0 1 0 0 0 1 2 now. Of 9 the options are 1+1+6, 1+2+5, 1+3+4, 2+2+4, 2+3+3.
+        code(9);
+        desk.analyse(9);
+        sum(9);
+        winsAre("01011");
+        sum(9, 1);
+        winsAre("001000");
     }
 
     private void movedHeapNotInTable() {

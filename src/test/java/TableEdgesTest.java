@@ -24,6 +24,7 @@ public final class TableEdgesTest extends Cases {
         holds("(a heap without options has 0)", this::nimberWithoutOptions);
         holds("of an option the exclusive or of its heaps' nimbers: none, one, two", this::exclusiveOr);
         holds("of an option the exclusive or of its heaps' nimbers: three", this::exclusiveOrOfThree);
+        holds("CODE: each digit tells of its own place alone", this::digitsOfDifferentPlaces);
     }
 
     private void nimberOfNothing() {
@@ -64,7 +65,18 @@ public final class TableEdgesTest extends Cases {
     private void exclusiveOrOfThree() {
         // Taking 1: of 4 is left 1 + 1 + 1 (nimber 1), of 5 is left 1 + 1 + 2 (nimber 0).
         code(9);
-        due("the nimbers", "0 1 0 0 0 1 2", () -> nimbersUpTo(6));
+        due("the nimbers", "0 1 0 0 0 1 2 2 2 3 4 4 4 5 6 6 6 7 8 3 8 3 8 10 10 10 12 7 12 7 12 5 14 5 14 16 16 11",
+                () -> nimbersUpTo(37));
+        due("analyse(200)", 96, () -> desk.analyse(200));
+    }
+
+    private void digitsOfDifferentPlaces() {
+        code(1, 4);
+        due("0.14", "0 1 0 0 1 0 2 1 2 2 1 0 4 1 4 4 1 2 2 1 2", () -> nimbersUpTo(20));
+        code(1, 2, 4, 8);
+        due("0.1248", "0 1 0 0 1 1 0 2 1 3 2 2 3 3 2 4 3 5 4 4 5 5 4 6 5 7", () -> nimbersUpTo(25));
+        code(4, 8, 1, 2);
+        due("0.4812", "0 0 0 1 1 2 2 3 3 4 4 5 5 6 6 7 7 8 8 9 9", () -> nimbersUpTo(20));
     }
 
     private void analysing() {
@@ -75,6 +87,7 @@ public final class TableEdgesTest extends Cases {
         holds("analyse(2000) with every kind", this::analyseAll);
         holds("THE TABLE has them up to the heap that was analysed: a smaller one", this::smallerTable);
         holds("THE TABLE has them up to the heap that was analysed: a greater one", this::greaterTable);
+        holds("analyse(): nimbers above 63, above 127, above 1000", this::greatNimbers);
         holds("(a refused n leaves the table)", this::refusedAnalyse);
         holds("TABLE, from a heap of 1 to 64 counters", this::tableUpTo64);
     }
@@ -124,8 +137,9 @@ public final class TableEdgesTest extends Cases {
         due("analyse(2000) with SPLIT", 1, () -> desk.analyse(2000));
         due("nimber(2000) with SPLIT", 1, () -> desk.nimber(2000));
         rule(UNLIKE);
-        due("analyse(2000) with UNLIKE", true, () -> desk.analyse(2000) >= 7);
-        due("count(0) with UNLIKE", 2000, () -> desk.count(0));
+        due("analyse(2000) with UNLIKE", 50, () -> desk.analyse(2000));
+        due("nimber(2000) with UNLIKE", 39, () -> desk.nimber(2000));
+        due("frequency(0) with UNLIKE", 42, () -> desk.frequency(0));
     }
 
     private void smallerTable() {
@@ -150,6 +164,26 @@ public final class TableEdgesTest extends Cases {
         due("nimber(11)", 6, () -> desk.nimber(11));
         desk.analyse(4);
         due("all of a smaller and then a greater one", "0 1 2 3 1 4 3 2 1 4 2 6 4 1 2 7", () -> nimbersUpTo(15));
+    }
+
+    private void greatNimbers() {
+        desk.kind(SUBTRACTION);
+        for (int number = 1; number <= 64; number++) {
+            desk.number(number, true);
+        }
+        due("analyse(2000) of taking 1 to 64", 64, () -> desk.analyse(2000));
+        due("nimber(64)", 64, () -> desk.nimber(64));
+        due("nimber(65)", 0, () -> desk.nimber(65));
+        due("nimber(1949)", 64, () -> desk.nimber(1949));
+        code(10, 15, 10, 15, 10, 15, 10, 15, 10, 15, 10, 15);
+        due("analyse(200) of a full code", 199, () -> desk.analyse(200));
+        for (int heap : new int[] {2, 64, 65, 128, 129, 200}) {
+            due("nimber(" + heap + ")", heap - 1, () -> desk.nimber(heap));
+        }
+        code(6, 4, 4, 6, 6, 4, 6, 6, 6, 7, 4, 7);
+        due("analyse(2000) of a full code without 8", 1313, () -> desk.analyse(2000));
+        due("nimber(1000)", 612, () -> desk.nimber(1000));
+        due("nimber(2000)", 177, () -> desk.nimber(2000));
     }
 
     private void refusedAnalyse() {
